@@ -45,14 +45,16 @@ public final class SolidRows {
             return NO_ROOM;
         }
         cloud.add(x, y, z);
-        renew();
+        hull.build();
+        forget();
         return cloud.count - 1;
     }
 
     public int clear() {
         int before = cloud.count;
         cloud.count = 0;
-        renew();
+        hull.build();
+        forget();
         return before;
     }
 
@@ -209,8 +211,7 @@ public final class SolidRows {
         return listed() == 4 * hull.edgeCount ? 1 : 0;
     }
 
-    private void renew() {
-        hull.build();
+    private void forget() {
         motions.count = 0;
         section.count = 0;
     }
@@ -312,7 +313,7 @@ public final class SolidRows {
             return isPoint(k) ? a * xs[k] + b * ys[k] + c * zs[k] : 0;
         }
 
-        /** (q - p) x (r - p) along a, b, c: above 0 if p, q, r turn left for an eye to which a, b, c points. */
+        /** (q - p) x (r - p) along a, b, c: above 0 if p, q, r turn left for an eye towards which a, b, c points. */
         long swing(int p, int q, int r, long a, long b, long c) {
             if (!isPoint(p) || !isPoint(q) || !isPoint(r)) {
                 return 0;
