@@ -259,6 +259,11 @@ public final class PromisesTest {
         SolidRows under = of(0, 0, 0, -1, 0, 0, 0, -2, 0, 0, 0, -5);
         due("above, below 0", under.middle(0, 0), -1);
         due("below", under.middle(0, 1), 4);
+        SolidRows away = of(5, 5, 5, 6, 5, 5, 5, 6, 5, 5, 5, 6);
+        for (int axis = 0; axis < 3; axis++) {
+            due("away from 0, above", away.middle(axis, 0), 21);
+            due("away from 0, below", away.middle(axis, 1), 4);
+        }
         due("a pyramid, X", pyramid().middle(0, 0), 0);
         due("0 is 0 / 1", pyramid().middle(0, 1), 1);
         due("a pyramid, Z", pyramid().middle(2, 0), 1);
@@ -367,6 +372,9 @@ public final class PromisesTest {
         due("no such part", solid.cutAt(0, 0, 2), NOTHING);
         solid.cut(1, 0, 0, 0);
         cutRow(solid, new long[][] {{0, 1, -3, 1, 0, 1}, {0, 1, 0, 1, 4, 1}, {0, 1, 3, 1, 0, 1}});
+        SolidRows cube = cube();
+        cube.cut(1, 0, 0, 1);
+        cutRow(cube, new long[][] {{1, 1, -1, 1, -1, 1}, {1, 1, -1, 1, 1, 1}, {1, 1, 1, 1, -1, 1}, {1, 1, 1, 1, 1, 1}});
         due("an empty cut", solid.cut(0, 0, 1, 5), 0);
         cutRow(solid, new long[][] {});
         solid.cut(1, 0, 0, 0);
@@ -388,6 +396,8 @@ public final class PromisesTest {
         due("a pyramid along an edge", pyramid().shadow(3, 3, -4), 4);
         due("a tetrahedron along an edge", tetrahedron().shadow(0, 1, 1), 3);
         due("a tetrahedron along an axis", tetrahedron().shadow(1, 0, 0), 4);
+        due("three corners about one", crooked().shadow(1, 1, 1), 3);
+        due("all four corners", crooked().shadow(1, 1, -1), 4);
         int[] bad = {21, -21, LOW, HIGH};
         for (int n : bad) {
             due("a", cube().shadow(n, 0, 0), -2);
@@ -517,6 +527,10 @@ public final class PromisesTest {
         for (int i = 0; i < orders.length; i++) {
             due("order(" + i + ")", solid.order(i), orders[i]);
         }
+        SolidRows double3 = of(1, -1, 0, 0, 1, -1, -1, 0, 1, 2, 2, 2, -2, -2, -2);
+        due("two tops on a triangle", double3.symmetries(), 12);
+        due("a third of a turn", double3.order(6), 3);
+        due("with the tops changed", double3.order(7), 6);
         int[] counts = new int[7];
         SolidRows cube = cube();
         for (int i = 0; i < 48; i++) {
