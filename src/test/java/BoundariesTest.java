@@ -40,13 +40,13 @@ public final class BoundariesTest {
         due(call, got ? 1 : 0, want ? 1 : 0);
     }
 
-    /** A test of its own for a sentence, which must stand in the document where it is told to. */
+    /** A test of its own for a sentence; it is told if the document has other words there by now. */
     private static void sentence(String where, String words, Runnable test) {
         section = where;
         sentence = words;
         sentences++;
         if (document != null && !partOf(where).contains(words)) {
-            fault("the document does not say that there");
+            System.out.println(section + ": the document does not say '" + sentence + "' there");
         }
         test.run();
     }
@@ -105,8 +105,14 @@ public final class BoundariesTest {
     /** Four triangles one above the other between two tops, 0 and 13. */
     private static final int[] TOWER = {0, 0, -12, 4, 0, -9, -2, 3, -9, -2, -3, -9, 8, 0, -3, -4, 6, -3, -4, -6, -3,
         8, 0, 3, -4, 6, 3, -4, -6, 3, 4, 0, 9, -2, 3, 9, -2, -3, 9, 0, 0, 12};
-    private static final int[][] SOLIDS = {BODY, PYRAMID, CUBE, GREAT, OCTAHEDRON, TENT, CROWN, BOWS, TOWER,
-        renumbered(CUBE, 3), renumbered(TENT, 5), renumbered(CROWN, 9), renumbered(BOWS, 11), renumbered(TOWER, 3)};
+    /** The pyramid's top is number 0, so the ground is its last face. */
+    private static final int[] TOP = {0, 0, 4, 3, 3, 0, -3, 3, 0, -3, -3, 0, 3, -3, 0};
+    /** X = 0 cuts two edges at the same Y, the one in fifths of Z, the other in thirds. */
+    private static final int[] SKEW = {-3, 0, 9, 2, 0, 11, -1, 0, 11, 2, 0, 12, 0, 5, 10};
+    private static final int[] UNIT = {0, 0, 1, 0, 0, 0, 1, 0, 0, 0, 1, 0};
+    private static final int[][] SOLIDS = {BODY, PYRAMID, CUBE, GREAT, OCTAHEDRON, TENT, CROWN, BOWS, TOWER, TOP, SKEW,
+        UNIT, renumbered(CUBE, 3), renumbered(TENT, 5), renumbered(CROWN, 9), renumbered(BOWS, 11), renumbered(TOWER, 3),
+        renumbered(SKEW, 4)};
     private static final int[][] FLATS = {{}, {1, 2, 3}, {1, 2, 3, 3, 2, 1}, {1, 0, 0, 0, 1, 0, 0, 0, 1},
         {0, 0, 0, 1, 1, 1, 2, 2, 2, -3, -3, -3}, {1, 0, 0, 0, 1, 0, 0, 0, 1, 1, 1, -1, -1, 1, 1}, RING};
 
@@ -272,16 +278,16 @@ public final class BoundariesTest {
 
     private static void onlyIfNotFlat() {
         for (int[] numbers : FLATS) {
-            told(of(numbers));
+            nothingTold(of(numbers));
         }
         SolidRows cleared = of(CUBE);
         cleared.symmetries();
         cleared.cut(1, 0, 0, 0);
         cleared.clear();
-        told(cleared);
+        nothingTold(cleared);
     }
 
-    private static void told(SolidRows flat) {
+    private static void nothingTold(SolidRows flat) {
         due("flat()", flat.flat(), true);
         int[] answers = {flat.corners(), flat.edges(), flat.faces(), flat.size(0), flat.at(0, 0), flat.where(0, 0, 0, 1),
             flat.cut(0, 0, 1, 0), flat.shadow(0, 0, 1), flat.way(0, 0), flat.symmetries(), flat.symmetry(0, 0),
@@ -471,6 +477,12 @@ public final class BoundariesTest {
             due("by Y where X is the same", cube.cutAt(i, 1, 0), i < 2 ? -1 : 1);
             due("by Z where X, Y are the same", cube.cutAt(i, 2, 0), i % 2 == 0 ? -1 : 1);
         }
+        SolidRows skew = of(SKEW);
+        due("X = 0", skew.cut(1, 0, 0, 0), 3);
+        long[][] fifthsAndThirds = {{0, 1, 0, 1, 51, 5}, {0, 1, 0, 1, 34, 3}, {0, 1, 5, 1, 10, 1}};
+        for (int k = 0; k < 18; k++) {
+            due("place " + k, skew.cutAt(k / 6, k % 6 / 2, k % 2), fifthsAndThirds[k / 6][k % 6]);
+        }
         for (int[] numbers : SOLIDS) {
             for (int d = -4; d <= 4; d++) {
                 int[][] planes = {{2, 0, 0}, {0, 2, 0}, {0, 0, 2}, {1, 1, 0}, {1, 0, -2}, {0, 3, 1}, {1, 2, 3}};
@@ -496,7 +508,8 @@ public final class BoundariesTest {
             long x = solid.cutAt(i, 0, 1);
             long y = solid.cutAt(i, 1, 1);
             long z = solid.cutAt(i, 2, 1);
-            long sum = a * solid.cutAt(i, 0, 0) * y * z + b * solid.cutAt(i, 1, 0) * x * z + c * solid.cutAt(i, 2, 0) * x * y;
+            long sum = a * solid.cutAt(i, 0, 0) * y * z + b * solid.cutAt(i, 1, 0) * x * z
+                + c * solid.cutAt(i, 2, 0) * x * y;
             due("a X + b Y + c Z", sum, d * x * y * z);
         }
     }
@@ -583,7 +596,8 @@ public final class BoundariesTest {
         due("a tetrahedron", of(1, 1, 1, 1, -1, -1, -1, 1, -1, -1, -1, 1).regular(), 1);
         // All faces alike and all corners alike, but not all edges.
         due("alike faces alone", of(1, 2, 3, 1, -2, -3, -1, 2, -3, -1, -2, 3).regular(), 0);
-        due("a brick, two kinds of faces", of(0, 0, 0, 1, 0, 0, 0, 1, 0, 1, 1, 0, 0, 0, 2, 1, 0, 2, 0, 1, 2, 1, 1, 2).regular(), 0);
+        SolidRows brick = of(0, 0, 0, 1, 0, 0, 0, 1, 0, 1, 1, 0, 0, 0, 2, 1, 0, 2, 0, 1, 2, 1, 1, 2);
+        due("two kinds of faces", brick.regular(), 0);
         SolidRows rhombic = of(OCTAHEDRON);
         add(rhombic, CUBE);
         due("48 symmetries", rhombic.symmetries(), 48);
@@ -612,6 +626,36 @@ public final class BoundariesTest {
         due("a whole number in a cut", body.cut(0, 0, 1, -2), 1);
         due("-2 / 1", body.cutAt(0, 2, 0), -2);
         due("-2 / 1", body.cutAt(0, 2, 1), 1);
+    }
+
+    private static void changeNothing() {
+        SolidRows solid = of(PYRAMID);
+        solid.cut(0, 0, 1, 1);
+        solid.symmetries();
+        long[] refused = {solid.point(0, 0, 21), solid.point(0, 0, 4), solid.size(5), solid.at(5, 0), solid.at(0, 3),
+            solid.where(0, 0, 0, 0), solid.cut(0, 0, 0, 1), solid.cut(0, 0, 1, 2001), solid.shadow(0, 0, 0),
+            solid.way(0, 1), solid.symmetry(8, 1), solid.symmetry(0, 0), solid.turn(8), solid.order(-1)};
+        for (long answer : refused) {
+            due("refused", answer < 0, true);
+        }
+        due("the cut", solid.cutAt(3, 0, 0), 9);
+        due("and no more of it", solid.cutAt(4, 0, 0), NOTHING);
+        due("the corners", solid.corners(), 62);
+        due("the symmetries", solid.symmetries(), 8);
+        due("the next number", solid.point(0, 0, 5), 6);
+        due("how many points", solid.clear(), 7);
+    }
+
+    private static void whatRefusalsAnswer() {
+        SolidRows solid = of(BOWS);
+        due("no such corner", solid.way(0, 14), -1);
+        due("no such face", solid.size(24), -1);
+        due("no such symmetry", solid.turn(8), -1);
+        due("no such place", solid.at(0, 3), -1);
+        due("outside its bounds", solid.point(21, 0, 0), -2);
+        due("outside its bounds", solid.cut(0, 0, 1, 2001), -2);
+        due("no room", solid.point(20, 0, 0), -4);
+        due("flat", of(RING).corners(), -3);
     }
 
     private static void firstThatFits() {
@@ -652,7 +696,7 @@ public final class BoundariesTest {
 
     private static void noPoints() {
         due("clear()", new SolidRows().clear(), 0);
-        told(new SolidRows());
+        nothingTold(new SolidRows());
         due("the first is number 0", new SolidRows().point(0, 0, 0), 0);
         SolidRows one = of(CUBE);
         SolidRows other = new SolidRows();
@@ -711,7 +755,7 @@ public final class BoundariesTest {
         solid.symmetries();
         solid.cut(0, 0, 1, 0);
         due("clear()", solid.clear(), 14);
-        told(solid);
+        nothingTold(solid);
         for (int k = 0; k < 14; k++) {
             due("one like an earlier one, from 0", solid.point(BOWS[3 * k], BOWS[3 * k + 1], BOWS[3 * k + 2]), k);
         }
@@ -1393,6 +1437,9 @@ public final class BoundariesTest {
             + "the one to the other.", BoundariesTest::eachTwoFlags);
         terms("Fractions are told in lowest terms, what is below above 0 (0 is 0 / 1): part 0 above, 1 below.",
             BoundariesTest::lowestTerms);
+        terms("REFUSALS change nothing", BoundariesTest::changeNothing);
+        terms("-1 there is no such CORNER, FACE, SYMMETRY, place, -2 outside its bounds, -3 not in this state (THE SOLID "
+            + "is FLAT), -4 no room.", BoundariesTest::whatRefusalsAnswer);
         terms("the first that fits in the order in which the call names them", BoundariesTest::firstThatFits);
         terms("Calls that answer a long have NOTHING in place of all of these.", BoundariesTest::nothingForLongs);
     }
