@@ -313,6 +313,10 @@ public final class BoundariesTest {
         due("in a face", solid.corners(), 0b1111);
         add(solid, 0, 0, -1);
         due("outside, just behind a corner", solid.corners(), 0b10000001110);
+        SolidRows narrow = of(0, 0, 0, 1, 0, 0, 0, 1, 0, -1, 0, 0, 0, -1, 0, 0, 0, 1);
+        due("point 0 in a face, the corners about it as near as can be", narrow.corners(), 0b111110);
+        due("its faces", narrow.faces(), 5);
+        due("the face about it", narrow.size(1), 4);
         SolidRows late = of(1, 1, 1, 0, 0, 0, 2, 0, 0, 0, 2, 0, 0, 0, 2);
         due("a corner", late.corners(), 0b11111);
         add(late, 2, 2, 2);
